@@ -892,7 +892,7 @@ public final class KeyTour {
             return set * MOST_ROOMS + last;
         }
 
-        /** Counts all walks that begin with those of one cell; in the order of the sets, as a set grows by each step. */
+        /** Counts all walks that begin with one walk; in the order of the sets, as each step makes a greater one. */
         void spread(Level level, int set, int last) {
             Arrays.fill(lasts, 0);
             rooms = level.rooms;
