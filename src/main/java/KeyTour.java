@@ -139,7 +139,7 @@ public final class KeyTour {
 
     public int exits() {
         int set = level.walkSet();
-        return level.leads(set, level.lastRoom()) & ~set;
+        return level.leads(set)[level.lastRoom()] & ~set;
     }
 
     // ---- Tours and how the walk can be completed
@@ -224,10 +224,10 @@ public final class KeyTour {
     public int reachable() {
         int set = 1 << level.start;
         for (int round = 0; round < level.rooms; round++) {
-            int open = level.openDoors(set);
+            int[] leads = level.leads(set);
             int entered = set;
             for (int room = 0; room < level.rooms; room++) {
-                if (has(set, room)) entered |= level.through(open, room);
+                if (has(set, room)) entered |= leads[room];
             }
             set = entered;
         }
@@ -346,11 +346,12 @@ public final class KeyTour {
     }
 
     public long rounds() {
-        int all = level.everyRoom();
         int last = endings();
+        int all = level.everyRoom();
+        int[] leads = level.leads(all);
         long count = 0;
         for (int room = 0; room < level.rooms; room++) {
-            if (has(last, room) && has(level.leads(all, room), level.start)) count += solved().walksTo(all, room);
+            if (has(last, room) && has(leads[room], level.start)) count += solved().walksTo(all, room);
         }
         return count;
     }
@@ -663,6 +664,8 @@ public final class KeyTour {
         int end = NONE;
         final int[] walk = new int[MOST_ROOMS];
         int length = 1;
+        // Only what leads() answers; no part of the level.
+        private final int[] leads = new int[MOST_ROOMS];
 
         void copyFrom(Level other) {
             rooms = other.rooms;
@@ -794,19 +797,17 @@ public final class KeyTour {
             return false;
         }
 
-        /** The rooms that are entered when a room is left by these doors. */
-        int through(int set, int room) {
-            int entered = 0;
+        /** For each room, those to which it leads with what is found in a set; the next call uses the row again. */
+        int[] leads(int set) {
+            int foundKeys = keysIn(set);
+            int foundCoins = coinsIn(set);
+            Arrays.fill(leads, 0);
             for (int door = 0; door < doors; door++) {
-                if (!has(set, door)) continue;
-                if (first[door] == room) entered |= 1 << second[door];
-                else if (second[door] == room && !oneway[door]) entered |= 1 << first[door];
+                if (!opens(door, foundKeys, foundCoins)) continue;
+                leads[first[door]] |= 1 << second[door];
+                if (!oneway[door]) leads[second[door]] |= 1 << first[door];
             }
-            return entered;
-        }
-
-        int leads(int found, int room) {
-            return through(openDoors(found), room);
+            return leads;
         }
 
         boolean mayEnd(int room) {
@@ -839,7 +840,7 @@ public final class KeyTour {
         void cutWalk() {
             int set = 1 << walk[0];
             for (int place = 1; place < length; place++) {
-                if (has(leads(set, walk[place - 1]), walk[place])) set |= 1 << walk[place];
+                if (has(leads(set)[walk[place - 1]], walk[place])) set |= 1 << walk[place];
                 else length = place;
             }
         }
@@ -899,7 +900,7 @@ public final class KeyTour {
             all = level.everyRoom();
             addWalks(set, last, 1);
             for (int from = set; from <= all; from++) {
-                if (lasts[from] != 0) spreadFrom(level, from, level.openDoors(from));
+                if (lasts[from] != 0) spreadFrom(from, level.leads(from));
             }
             endings = 0;
             for (int room = 0; room < rooms; room++) {
@@ -907,13 +908,14 @@ public final class KeyTour {
             }
         }
 
-        private void spreadFrom(Level level, int set, int open) {
+        private void spreadFrom(int set, int[] leads) {
             for (int last = 0; last < rooms; last++) {
                 if (!has(lasts[set], last)) continue;
                 int here = cell(set, last);
-                next[here] = level.through(open, last) & ~set;
-                for (int room = 0; room < rooms; room++) {
-                    if (has(next[here], room)) addWalks(set | 1 << room, room, walks[here]);
+                int on = leads[last] & ~set;
+                next[here] = on;
+                for (int room = 0; room < rooms && on >> room != 0; room++) {
+                    if (has(on, room)) addWalks(set | 1 << room, room, walks[here]);
                 }
             }
         }
@@ -937,7 +939,7 @@ public final class KeyTour {
             if (set == all) return has(endings, last) ? 1 : 0;
             int on = next[cell(set, last)];
             long count = 0;
-            for (int room = 0; room < rooms; room++) {
+            for (int room = 0; room < rooms && on >> room != 0; room++) {
                 if (has(on, room)) count += tours[cell(set | 1 << room, room)];
             }
             return count;
@@ -1191,11 +1193,10 @@ public final class KeyTour {
             type = typeAt(begin);
             word = 0;
             number = 0;
-            if (type == SYMBOL) number = text.bytes[position++];
-            else takeRun();
-        }
-
-        private void takeRun() {
+            if (type == SYMBOL) {
+                number = text.bytes[position++];
+                return;
+            }
             while (position < text.length && typeAt(position) == type) {
                 int sign = text.bytes[position++];
                 if (type == WORD) word = word << 8 | sign;

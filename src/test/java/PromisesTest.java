@@ -164,6 +164,9 @@ public final class PromisesTest {
         Check.feed(y, "\0");
         is("7: the room without a name", y.find(), KeyTour.NONE);
         is("7: the room without a name", y.find(), KeyTour.NONE);
+        KeyTour ends = Check.level("room b;room az;");
+        Check.feed(ends, "az");
+        is("7: find of the first and last letters", ends.find(), 1);
         KeyTour z = Check.level("room abcdef;room bcdefg;");
         Check.feed(z, "bcdefg");
         is("7: find of six letters", z.find(), 1);
