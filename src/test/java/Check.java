@@ -15,6 +15,10 @@ final class Check {
         if (wrong <= 50) System.out.println(call + " answered " + got + ", due is " + due);
     }
 
+    static void is(String call, long got, long due) {
+        same(call, got, due);
+    }
+
     static void fails(String call, Class<? extends RuntimeException> due, Call tried) {
         Object got;
         try {
